@@ -2,24 +2,24 @@
  * Polynomials over a small prime field and their factors.
  *
  * A polynomial is held as its code alone: the coefficients are the digits of
- * the code to the base of the prime. The private methods from combine to
- * radicalOf take codes and answer codes and touch no register, so a question
- * can change nothing.
+ * the code to the base of the prime. The private methods work on codes, none
+ * of them touches a register, so a question can change nothing.
  */
 public final class FactorField {
     private static final int REGISTERS = 3;
     private static final int TOP_DEGREE = 8;
     private static final int COEFFICIENTS = 9;
+    private static final int POWERS = 10;
     private static final int COUNTED_DEGREE = 4;
 
     private final int modulus;
-    private final int[] powers = new int[COEFFICIENTS + 1];
+    private final int[] powers = new int[POWERS];
     private final int[] registers = new int[REGISTERS];
 
     public FactorField(int choice) {
         modulus = choice == 0 ? 2 : choice == 1 ? 3 : 5;
         powers[0] = 1;
-        for (int i = 1; i <= COEFFICIENTS; i++) {
+        for (int i = 1; i < POWERS; i++) {
             powers[i] = powers[i - 1] * modulus;
         }
     }
@@ -223,10 +223,13 @@ public final class FactorField {
 
     public int nextIrreducible(int after) {
         for (int d = 1; d <= TOP_DEGREE; d++) {
+            int first = powers[d];
             int last = 2 * powers[d] - 1;
-            // after + 1 is reckoned only below last, where it can't wrap.
-            int first = after < powers[d] ? powers[d] : after < last ? after + 1 : last + 1;
-            for (int monic = first; monic <= last; monic++) {
+            // after + 1 can't wrap around where after is below last.
+            if (after >= first && after < last) {
+                first = after + 1;
+            }
+            for (int monic = first; monic > after && monic <= last; monic++) {
                 if (isIrreducible(monic)) {
                     return monic;
                 }
@@ -298,7 +301,7 @@ public final class FactorField {
         int inverse = inverseOf(y / powers[degree]);
         int quotient = 0;
         int rest = x;
-        for (int shift = TOP_DEGREE - degree; shift >= 0; shift--) {
+        for (int shift = degreeOf(x) - degree; shift >= 0; shift--) {
             int ratio = rest / powers[degree + shift] * inverse % modulus;
             quotient += ratio * powers[shift];
             rest = combine(rest, modulus - ratio, y * powers[shift]);
@@ -316,9 +319,7 @@ public final class FactorField {
         int rest = x;
         for (int shift = degreeOf(x) - degree; shift >= 0; shift--) {
             int ratio = rest / powers[degree + shift] * inverse % modulus;
-            if (ratio != 0) {
-                rest = combine(rest, modulus - ratio, y * powers[shift]);
-            }
+            rest = combine(rest, modulus - ratio, y * powers[shift]);
         }
         return rest;
     }
