@@ -53,6 +53,15 @@ final class Poly {
         return trimmed(product);
     }
 
+    /** The code of the product of the polynomials with these codes. */
+    static int product(int prime, int... codes) {
+        int[] product = {1};
+        for (int code : codes) {
+            product = times(prime, product, coefficients(prime, code));
+        }
+        return code(prime, product);
+    }
+
     /** {quotient, remainder} of x by y, which is not 0. */
     static int[][] divided(int prime, int[] x, int[] y) {
         int[] quotient = new int[Math.max(x.length - y.length + 1, 0)];
