@@ -12,11 +12,8 @@ public final class ArithmeticTest {
             addAndSubtractEdges(p);
             multiplyEdges(p);
             divideEdges(p);
-            divideRefused(p);
             divisorEdges(p);
             deriveEdges(p);
-            valueAtEdges(p);
-            badRegisters(p);
         }
         Check.finish();
     }
@@ -160,25 +157,6 @@ public final class ArithmeticTest {
         Check.registers("by x", field, all / p, p - 1, p);
     }
 
-    private static void divideRefused(int p) {
-        FactorField field = Check.loaded(p, 7, 8, 0);
-        int[][] same = {{0, 0, 1}, {0, 1, 0}, {1, 0, 0}, {1, 1, 1}, {2, 2, 2}, {0, 0, 2}, {1, 2, 2}, {2, 1, 2}};
-        for (int[] r : same) {
-            Check.due(p, "divide with two the same", field.divide(r[0], r[1], r[2]), -2);
-        }
-        Check.due(p, "divide(0, 1, 2) by 0", field.divide(0, 1, 2), -3);
-        Check.due(p, "divide(1, 0, 2) by 0", field.divide(1, 0, 2), -3);
-        for (int bad : Check.BAD_REGISTERS) {
-            Check.due(p, "divide(bad, 1, 0)", field.divide(bad, 1, 0), -1);
-            Check.due(p, "divide(0, bad, 1)", field.divide(0, bad, 1), -1);
-            Check.due(p, "divide(0, 1, bad)", field.divide(0, 1, bad), -1);
-            Check.due(p, "divide(bad, bad, 2)", field.divide(bad, bad, 2), -1);
-            Check.due(p, "divide(1, 1, bad)", field.divide(1, 1, bad), -1);
-            Check.due(p, "divide(bad, 2, 2)", field.divide(bad, 2, 2), -1);
-        }
-        Check.registers("refused divides", field, 7, 8, 0);
-    }
-
     private static void divisor() {
         // (x + 1)(x^2 + x + 1) and (x + 1)^2 x
         divisorOne(2, new int[] {1, 0, 0, 1}, new int[] {0, 1, 0, 1}, new int[] {1, 1});
@@ -281,36 +259,5 @@ public final class ArithmeticTest {
             Check.due(p, "valueAt, many p down", field.valueAt(2, point - 100 * p), values[point]);
         }
         Check.registers("valueAt", field, 1, 1, code);
-    }
-
-    private static void valueAtEdges(int p) {
-        FactorField field = Check.loaded(p, p, 0, p - 1);
-        int[] points = {Integer.MAX_VALUE, Integer.MAX_VALUE - 1, Integer.MIN_VALUE, Integer.MIN_VALUE + 1, -1, -p};
-        for (int point : points) {
-            Check.due(p, "x at " + point, field.valueAt(0, point), Math.floorMod(point, p));
-            Check.due(p, "0 at " + point, field.valueAt(1, point), 0);
-            Check.due(p, "p - 1 at " + point, field.valueAt(2, point), p - 1);
-        }
-    }
-
-    private static void badRegisters(int p) {
-        FactorField field = Check.loaded(p, 9, 10, 11);
-        for (int bad : Check.BAD_REGISTERS) {
-            for (int good = 0; good < 3; good++) {
-                Check.due(p, "add(bad, good)", field.add(bad, good), -1);
-                Check.due(p, "add(good, bad)", field.add(good, bad), -1);
-                Check.due(p, "subtract(bad, good)", field.subtract(bad, good), -1);
-                Check.due(p, "subtract(good, bad)", field.subtract(good, bad), -1);
-                Check.due(p, "multiply(bad, good)", field.multiply(bad, good), -1);
-                Check.due(p, "multiply(good, bad)", field.multiply(good, bad), -1);
-                Check.due(p, "divisor(bad, good)", field.divisor(bad, good), -1);
-                Check.due(p, "divisor(good, bad)", field.divisor(good, bad), -1);
-            }
-            Check.due(p, "add(bad, bad)", field.add(bad, bad), -1);
-            Check.due(p, "derive(bad)", field.derive(bad), -1);
-            Check.due(p, "valueAt(bad, 1)", field.valueAt(bad, 1), -1);
-            Check.due(p, "valueAt(bad, -1)", field.valueAt(bad, -1), -1);
-        }
-        Check.registers("calls with bad registers", field, 9, 10, 11);
     }
 }

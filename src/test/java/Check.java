@@ -1,7 +1,6 @@
 /** What the tests share: counting wrong answers, making objects, naming codes. */
 final class Check {
     static final int[] PRIMES = {2, 3, 5};
-    static final int[] BAD_REGISTERS = {-1, 3, 4, 1000, Integer.MIN_VALUE, Integer.MAX_VALUE};
 
     private static int made = 0;
     private static int wrong = 0;

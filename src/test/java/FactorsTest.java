@@ -22,10 +22,6 @@ public final class FactorsTest {
         for (int[] product : PRODUCTS) {
             product(product);
         }
-        for (int p : Check.PRIMES) {
-            zero(p);
-            badRegisters(p);
-        }
         againstModel(2, 1);
         againstModel(3, 7);
         againstModel(5, 761);
@@ -96,38 +92,6 @@ public final class FactorsTest {
 
     private static int degree(int p, int code) {
         return Poly.degree(Poly.coefficients(p, code));
-    }
-
-    private static void zero(int p) {
-        FactorField field = Check.loaded(p, 1, 0, 2);
-        Check.due(p, "roots of 0", field.roots(1), p);
-        Check.due(p, "irreducible of 0", field.irreducible(1), 0);
-        Check.due(p, "factors of 0", field.factors(1), -2);
-        Check.due(p, "factor(1, 0) of 0", field.factor(1, 0), -2);
-        Check.due(p, "factor(1, -1) of 0", field.factor(1, -1), -2);
-        Check.due(p, "multiplicity(1, 0) of 0", field.multiplicity(1, 0), -2);
-        Check.due(p, "multiplicity(1, 9) of 0", field.multiplicity(1, 9), -2);
-        Check.due(p, "greatest of 0", field.greatest(1), -2);
-        Check.due(p, "squareFree of 0", field.squareFree(1), -2);
-        Check.due(p, "radical of 0", field.radical(1), -2);
-        Check.registers("questions of 0", field, 1, 0, 2);
-    }
-
-    private static void badRegisters(int p) {
-        FactorField field = Check.loaded(p, 9, 10, 0);
-        for (int bad : Check.BAD_REGISTERS) {
-            Check.due(p, "roots(bad)", field.roots(bad), -1);
-            Check.due(p, "irreducible(bad)", field.irreducible(bad), -1);
-            Check.due(p, "factors(bad)", field.factors(bad), -1);
-            Check.due(p, "factor(bad, 0)", field.factor(bad, 0), -1);
-            Check.due(p, "factor(bad, -1)", field.factor(bad, -1), -1);
-            Check.due(p, "multiplicity(bad, 0)", field.multiplicity(bad, 0), -1);
-            Check.due(p, "multiplicity(bad, 9)", field.multiplicity(bad, 9), -1);
-            Check.due(p, "greatest(bad)", field.greatest(bad), -1);
-            Check.due(p, "squareFree(bad)", field.squareFree(bad), -1);
-            Check.due(p, "radical(bad)", field.radical(bad), -1);
-        }
-        Check.registers("calls with bad registers", field, 9, 10, 0);
     }
 
     private static void againstModel(int p, int step) {

@@ -113,18 +113,21 @@ public final class TermsBoundaryTest {
         int end = p * top;
         Edge edge = new Edge(p, "terms: a refused call changes nothing", top, 0, end - 1);
         for (int bad : new int[] {-1, 3, Integer.MIN_VALUE, Integer.MAX_VALUE}) {
-            edge.keeps(-1, "load", bad, 1);
-            edge.keeps(-1, "derive", bad);
-            edge.keeps(-1, "radical", bad);
-            edge.keeps(-1, "divide", bad, 0, 2);
-            edge.keeps(-1, "divide", 1, bad, 2);
-            edge.keeps(-1, "divide", 1, 2, bad);
+            for (String method : ONE_REGISTER) {
+                edge.keeps(method.equals("degree") ? -2 : -1, method, bad);
+            }
+            for (String method : REGISTER_AND_NUMBER) {
+                edge.keeps(-1, method, bad, 0);
+            }
             for (String method : TWO_REGISTERS) {
                 for (int good = 0; good < Edge.REGISTERS; good++) {
                     edge.keeps(-1, method, bad, good);
                     edge.keeps(-1, method, good, bad);
                 }
             }
+            edge.keeps(-1, "divide", bad, 0, 2);
+            edge.keeps(-1, "divide", 1, bad, 2);
+            edge.keeps(-1, "divide", 1, 2, bad);
         }
         for (int a = 0; a < Edge.REGISTERS; a++) {
             edge.keeps(-2, "load", a, -1);
@@ -138,7 +141,16 @@ public final class TermsBoundaryTest {
         edge.keeps(-2, "multiply", 2, 0);
         edge.keeps(-3, "divide", 0, 2, 1);
         edge.keeps(-3, "divide", 2, 0, 1);
-        edge.keeps(-2, "radical", 1);
+        for (String method : new String[] {"factors", "greatest", "squareFree", "radical"}) {
+            edge.keeps(-2, method, 1);
+        }
+        for (String method : new String[] {"factor", "multiplicity"}) {
+            edge.keeps(-2, method, 1, 0);
+            edge.keeps(-3, method, 0, -1);
+            edge.keeps(-3, method, 0, 1);
+        }
+        edge.keeps(-1, "irreducibles", 0);
+        edge.keeps(-1, "irreducibles", 5);
     }
 
     /** No later test is made for a bad register, whatever the good ones hold. */
