@@ -1,10 +1,14 @@
+import java.util.TreeSet;
+
 /**
- * Long runs of mixed calls against the model, with every register looked at
- * after every call. A run keeps to the 512 calls that the document allows.
+ * Long runs of mixed calls against the model. A run has the 512 calls that the
+ * document allows, and no more.
  */
 public final class RunsTest {
-    private static final int RUNS = 150;
-    private static final int STEPS = 128;
+    private static final int CALLS = 512;
+    private static final int METHODS = 21;
+    private static final int WATCHED_RUNS = 150;
+    private static final int MIXED_RUNS = 40;
     private static final int[] ODD_INTS = {
         Integer.MIN_VALUE, Integer.MIN_VALUE + 1, -1000, -9, -2, -1, 3, 4, 8, 9, 1000, Integer.MAX_VALUE
     };
@@ -14,21 +18,37 @@ public final class RunsTest {
     public static void main(String[] args) {
         for (int prime : Check.PRIMES) {
             Sieve sieve = new Sieve(prime);
-            for (int run = 0; run < RUNS; run++) {
-                run(sieve, run);
+            for (int run = 0; run < WATCHED_RUNS; run++) {
+                watchedRun(sieve, run);
+            }
+            for (int run = 0; run < MIXED_RUNS; run++) {
+                mixedRun(sieve, run);
             }
         }
         Check.finish();
     }
 
-    private static void run(Sieve sieve, int run) {
+    /** Every register is looked at after every call; each look is a call too. */
+    private static void watchedRun(Sieve sieve, int run) {
         FactorField field = Check.field(sieve.prime);
         Model model = new Model(sieve);
-        for (int step = 0; step < STEPS; step++) {
+        for (int step = 0; step < CALLS / 4; step++) {
             String call = step(sieve.prime, field, model);
             String after = "prime " + sieve.prime + ", run " + run + ", step " + step + ", " + call;
             Check.registers(after, field, model.code(0), model.code(1), model.code(2));
         }
+    }
+
+    /** Nothing is looked at between the calls, so that any method can be the 512th. */
+    private static void mixedRun(Sieve sieve, int run) {
+        FactorField field = Check.field(sieve.prime);
+        Model model = new Model(sieve);
+        TreeSet<String> methods = new TreeSet<>();
+        for (int step = 0; step < CALLS; step++) {
+            String call = step(sieve.prime, field, model);
+            methods.add(call.substring(0, call.indexOf('(')));
+        }
+        Check.due(sieve.prime, "methods called in mixed run " + run, methods.size(), METHODS);
     }
 
     private static String step(int p, FactorField f, Model m) {
